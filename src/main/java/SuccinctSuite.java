@@ -594,7 +594,7 @@ public final class SuccinctSuite {
             joinGroups(first, second);
         }
         for (int letter = 0; letter < LETTERS; letter++) {
-            // A letter that stands alone in the list was never joined, and yet needs a bit.
+            // The only letter of a list was never joined, and yet its word needs a bit.
             if (letterCounts[letter] > 0 && codeLengths[letter] == 0) {
                 codeLengths[letter] = 1;
             }
