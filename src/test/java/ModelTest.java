@@ -15,7 +15,7 @@ public final class ModelTest {
     private static final int RUNS = 1500;
     private static int wrong = 0;
 
-    private final SuccinctSuite x = new SuccinctSuite();
+    private SuccinctSuite x = new SuccinctSuite();
     private final List<Integer> list = new ArrayList<>();
     private final Random random;
     private final int run;
@@ -269,7 +269,17 @@ public final class ModelTest {
         }
     }
 
-    /** Asks all engines everywhere on one list; the calls only read, so their number is of no weight. */
+    /** Nothing is promised after the last call, so a new object takes over the list before it. */
+    private void renewBefore(int more) {
+        if (calls + more <= CALLS) return;
+        x = new SuccinctSuite();
+        calls = 0;
+        for (int i = 0; i < list.size(); i++) {
+            due("append", x.append(list.get(i), 1), i + 1);
+        }
+    }
+
+    /** Asks all engines everywhere on one list. */
     private void askEverywhere() {
         for (int n = random.nextInt(201); list.size() < n; ) {
             int letter = random.nextInt(1 + run % 8), size = 1 + random.nextInt(1 + run % 5);
@@ -277,6 +287,7 @@ public final class ModelTest {
         }
         for (int engine = 0; engine < 7; engine++) {
             for (int i = 0; i <= list.size(); i++) {
+                renewBefore(17);
                 due("at(" + engine + ", " + i + ")", x.at(engine, i), at(engine, i));
                 for (int letter = 0; letter < 8; letter++) {
                     due("rank(" + engine + ", " + letter + ", " + i + ")", x.rank(engine, letter, i), rank(engine, letter, i));
@@ -284,6 +295,7 @@ public final class ModelTest {
                 }
             }
         }
+        renewBefore(2);
         due("bits()", x.bits(), bits());
         due("runs()", x.runs(), runs());
     }
