@@ -511,6 +511,40 @@ public final class EngineBoundaryTest {
         });
     }
 
+    private static void unchanged() {
+        Probe.sentence("6 to 11, 15: a question that is refused changes nothing", p -> {
+            for (int length : Probe.lengths()) {
+                Probe q = p.filled(length);
+                for (int wrong : new int[] {-1, length + 1, 256, MIN, MAX}) {
+                    q.at(wrong, BAD);
+                    q.rank(0, wrong, BAD);
+                    q.rank(wrong < 0 ? wrong : 8, 0, BAD);
+                    q.select(0, wrong, BAD);
+                    q.below(0, wrong, 8, BAD);
+                    q.below(0, length, wrong < 0 ? wrong : 9, BAD);
+                    q.ordered(wrong, length, 0, BAD);
+                    q.ordered(0, length, wrong, BAD);
+                    q.most(wrong, wrong, BAD);
+                    q.agree(wrong < 0 ? wrong : 7, false);
+                }
+                q.holds(Probe.letters(length));
+            }
+        });
+        Probe.sentence("6 to 11, 15: a question that is answered changes nothing", p -> {
+            for (int length : SOME_LENGTHS) {
+                Probe q = p.filled(length);
+                q.at(length - 1, Probe.letters(length)[length - 1]);
+                q.rank(6, 0, 0);
+                q.select(7, 0, 0);
+                q.below(0, length, 8, length);
+                q.ordered(0, 1, 0, 7);
+                q.most(0, 1, 7);
+                q.agree(6, true);
+                q.holds(Probe.letters(length));
+            }
+        });
+    }
+
     public static void main(String[] args) {
         terms();
         promise6();
@@ -520,6 +554,7 @@ public final class EngineBoundaryTest {
         promise10();
         promise11();
         promise15();
+        unchanged();
         Probe.end();
     }
 }

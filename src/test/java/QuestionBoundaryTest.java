@@ -259,11 +259,33 @@ public final class QuestionBoundaryTest {
         });
     }
 
+    private static void unchanged() {
+        Probe.sentence("12 to 14, 16: a question, answered or refused, changes nothing", p -> {
+            for (int length : new int[] {1, 2, 199, 200}) {
+                Probe q = p.filled(length);
+                q.different(0, 1, 1);
+                q.different(0, length + 1, BAD);
+                q.different(MIN, MAX, BAD);
+                q.next(7, MIN, 0);
+                q.next(7, MAX, BAD);
+                q.next(8, 0, BAD);
+                q.holds(Probe.letters(length));
+            }
+            Probe alone = p.fresh(2, 2, 2);
+            for (int time = 0; time < 3; time++) {
+                alone.runs(1);
+                alone.bits(3);
+            }
+            alone.holds(2, 2, 2);
+        });
+    }
+
     public static void main(String[] args) {
         promise12();
         promise13();
         promise14();
         promise16();
+        unchanged();
         Probe.end();
     }
 }
