@@ -170,10 +170,6 @@ final class Probe {
         return engine;
     }
 
-    int calls() {
-        return calls;
-    }
-
     /** The whole list as this engine tells it, and what the questions without an engine tell. */
     void holds(int... letters) {
         int length = letters.length;
